@@ -12,6 +12,7 @@ public final class RandomRunsTest {
       "eater told cell lays as turns sends cook say rule deal seed minutes town path behind wets deepest"
       + " fee fine feed trim text textTold why sheet mark pour reads copy lay ask item rest tell check keep back count";
   private static final String DEAR = "walled enough stood";
+  private static final String ROWS = "mark mark copy copy lay ask item rest pour reads stood";
   private static final int[] ODD = {Integer.MIN_VALUE, Integer.MAX_VALUE, -1000000005, -1, 100000, -99999, 99999};
 
   private final Random lot;
@@ -47,6 +48,7 @@ public final class RandomRunsTest {
       if (what < 8) tellText();
       else if (what < 11) checkRows();
       else if (what < 14) call(pick(DEAR));
+      else if (what < 30) call(pick(ROWS));
       else call(pick(PLAIN));
     }
   }
@@ -58,7 +60,18 @@ public final class RandomRunsTest {
     if (lot.nextInt(4) > 0) both("cook", lot.nextInt(36));
     if (lot.nextInt(4) == 0) both("rule", 3, lot.nextInt(101));
     for (int i = lot.nextInt(20); i > 0; i--) both("lays", lot.nextInt(36), lot.nextInt(2), lot.nextInt(6));
+    if (lot.nextInt(3) > 0) beginRows();
     if (lot.nextInt(12) == 0) for (int i = 0; i < 167; i++) both("minutes", 60);
+  }
+
+  /** Sheets and slots that hold something. */
+  private void beginRows() throws Exception {
+    for (int i = 0; i < 4; i++) {
+      int size = lot.nextInt(25);
+      both("sheet", i, lot.nextInt(2), size);
+      for (int k = 0; k < size; k++) if (lot.nextInt(3) == 0) both("mark", i, k, lot.nextInt(6) == 0 ? -1000000005 : lot.nextInt(40));
+    }
+    for (int i = 0; i < 5; i++) both("lay", i, lot.nextInt(4), lot.nextInt(4));
   }
 
   private String pick(String names) {
