@@ -9,7 +9,7 @@ public final class LittlePot {
     private static final int SHEETS = 4, MOST_PLACES = 24, FLOAT_MOST = 99999;
     private static final int SLOTS = 5, HOLDS_EATER = 1, HOLDS_SHEET = 2, HOLDS_NUMBER = 3;
     private static final int MOST_TAPE = 96, MOST_WAITING = 60, LONGEST_LOOK = 200;
-    private static final int WALLED_BY = 5, BOILED_BY = 5;
+    private static final int WALLED_BY = 5, BOILED_BY = 5, ABOVE_ALL = 2147483647;
 
     private static final int[] RULE_MOST = {9, 99, 9, 100};
     private static final int[] LAID_MOST = {20, 20, 999};
@@ -241,7 +241,7 @@ public final class LittlePot {
             return BAD;
         }
         int best = 0;
-        int least = Integer.MAX_VALUE;
+        int least = ABOVE_ALL;
         for (int c = 0; c < CELLS; c++) {
             thought.becomes(now);
             thought.walls[c] += WALLED_BY;
@@ -280,7 +280,7 @@ public final class LittlePot {
             return NOTHING;
         }
         int best = 0;
-        int least = Integer.MAX_VALUE;
+        int least = ABOVE_ALL;
         for (int c = 0; c < CELLS; c++) {
             thought.becomes(now);
             thought.pot = c;
@@ -804,7 +804,7 @@ public final class LittlePot {
                 return;
             }
             int lowest = c;
-            int least = Integer.MAX_VALUE;
+            int least = ABOVE_ALL;
             for (int side = 0; side < Near.SIDES; side++) {
                 int other = Near.beside(c, side);
                 if (other >= 0 && level(other) < least) {

@@ -88,7 +88,7 @@ public final class LanguageTest {
     String code = whole.replaceAll("(?s)/\\*.*?\\*/", "").replaceAll("//[^\n]*", "")
         .replaceAll("\"[^\"\n]*\"", "\"\"").replaceAll("'[^'\n]'", "0");
     String[] banned = {"throw", "throws", "try", "catch", "finally", "synchronized", "assert", "import", "package",
-      "protected", "native", "volatile", "transient", "strictfp", "NaN", "hashCode", "toString", "Object", "System\\.out"};
+      "protected", "native", "volatile", "transient", "strictfp", "NaN", "hashCode", "toString", "Object", "Integer", "System\\.out"};
     for (String b : banned) holds("no " + b, !Pattern.compile("\\b" + b + "\\b").matcher(code).find());
     holds("no lambda, no method reference", !code.contains("->") && !code.contains("::"));
     holds("no string joined by +", !code.contains("\"\" +") && !code.contains("+ \"\""));
