@@ -311,6 +311,7 @@ public final class PromisesTest {
     for (int i = 0; i < 12; i++) z = drawn(z);
     due("12: z", x.count(9), z);
     due("12: no room", x.deal(1), 0);
+    due("12: eight that ate nothing", x.town(1), 0);
     due("12: no draws for others", x.count(9), z);
   }
 
@@ -751,6 +752,14 @@ public final class PromisesTest {
     due("26: count", x.count(8), 5);
     due("26: the first ones are kept", x.text(), 0);
     due("26: fee 1", x.fee(), 1);
+    // What was cut off is not read, though a word went on there.
+    x.feed(0x66656520, 0x31323334, 0x35363738);
+    x.trim(5);
+    due("26: a number cut short", x.text(), 1);
+    due("26: fee 1", x.fee(), 1);
+    x.feed(0x66656520, 0x70707070, 0x70707070);
+    x.trim(5);
+    due("26: a name cut short", x.text(), 2);
   }
 
   private static void text() {
@@ -792,7 +801,9 @@ public final class PromisesTest {
 
   private static void worked() {
     LittlePot again = new LittlePot();
-    text(again, "fee ((((((((!!!!!!!!1+2+3");
+    due("27: a fault at a word", text(again, "fee 1 2"), -106);
+    due("27: a fault at a word", text(again, "fine b"), -105);
+    due("27: an end too soon", text(again, "fee ((((((((!!!!!!!!1+2+3"), -125);
     due("27: nothing is left of a fault", text(again, "fee ((((((((!!!!!!!!9))))))))"), 0);
     due("28: its numbers alone", again.textTold(0, 1), 1);
     due("23: and what it gives", again.fee(), 1);
