@@ -110,7 +110,7 @@ public final class LanguageTest {
     LittlePot x = new LittlePot();
     dear(x, 1);
     long ahead = bean.getCurrentThreadAllocatedBytes();
-    dear(x, 60);
+    dear(x, 36);
     long made = bean.getCurrentThreadAllocatedBytes() - ahead;
     holds("dear calls make next to nothing, not " + made + " bytes", made < 60_000);
   }

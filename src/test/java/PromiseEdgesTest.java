@@ -1150,6 +1150,7 @@ public final class PromiseEdgesTest extends Edges {
       due(x, 2 * left == 0 ? 0 : 1, "check", 30);
       due(x, 9999 - left, "count", 1);
     }
+    boundByTheImage();
     at(40, "else 1 and how many stand right ahead of the first that is not (or is missing, or one too many).");
     for (int wait = 0; wait <= 60; wait++) {
       for (int n : new int[] {1, 15, 30}) {
@@ -1185,6 +1186,23 @@ public final class PromiseEdgesTest extends Edges {
       due(x, 0, "count", 7);
       leaves(PromiseEdgesTest::noneWait, 1, "check", n);
     }
+  }
+
+  /** It is THE MINUTE of the image that bounds them, not the one that is now. */
+  private static void boundByTheImage() {
+    LittlePot early = waiting(60);
+    late(early);
+    due(early, 0, "check", 30);
+    LittlePot x = fresh();
+    for (int i = 0; i < 166; i++) x.minutes(60);
+    x.minutes(38);
+    x.cook(0);
+    x.keep();
+    x.minutes(1);
+    due(x, 9999, "count", 1);
+    x.tell(20);
+    x.tell(0);
+    due(x, 0, "check", 30);
   }
 
   private static LittlePot noneWait() {

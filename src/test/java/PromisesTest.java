@@ -87,6 +87,7 @@ public final class PromisesTest {
     check();
     checkLate();
     keepAndBack();
+    whatAnImageDoesNotKeep();
     backAndTexts();
     count();
     System.out.println(wrong == 0 ? "promises: " + asked + " answers are as due" : wrong + " answers are not as due");
@@ -1153,32 +1154,39 @@ public final class PromisesTest {
   }
 
   private static void keepAndBack() {
-    LittlePot x = busy();
-    due("42: no", x.back(), NO);
-    x.minutes(4);
-    x.rule(2, 1);
-    due("41: keep", x.keep(), 5);
-    int[] before = all(x);
-    for (int again = 0; again < 2; again++) {
-      x.rule(0, 1);
-      x.rule(1, 2);
-      x.rule(2, 3);
-      x.rule(3, 4);
-      x.eater(3, 3);
-      x.turns(0, (x.told(0, 0) + 1) % 6);
-      x.sends(1, (x.told(1, 1) + 1) % 36);
-      for (int c = 0; c < 36; c++) for (int w = 0; w < 3; w++) x.lays(c, w, (x.cell(c, w) + 1) % 20);
-      x.cook(30);
-      x.say(1);
-      text(x, "boil 1");
-      text(x, "fee 1");
-      x.minutes(7);
-      x.seed(5);
-      due("42: back", x.back(), 5);
+    for (int many = 1; many <= 2; many++) {
+      LittlePot x = busy();
+      due("42: no", x.back(), NO);
+      x.minutes(4);
+      x.rule(2, 1);
+      due("41: keep", x.keep(), 5);
+      int[] before = all(x);
+      for (int again = 0; again < many; again++) {
+        changesAll(x, 4 * again);
+        due("42: back", x.back(), 5);
+      }
       int[] after = all(x);
       for (int i = 0; i < before.length; i++) due("42: as it was, " + i, after[i], before[i]);
     }
-    // What an image does not keep.
+  }
+
+  private static void changesAll(LittlePot x, int from) {
+    for (int i = 0; i < 4; i++) x.rule(i, 1 + i);
+    x.eater(3, 3);
+    x.turns(0, (x.told(0, 0) + 1) % 6);
+    x.sends(1, (x.told(1, 1) + 1) % 36);
+    for (int c = from; c < 36; c += 8) for (int w = 0; w < 3; w++) x.lays(c, w, (x.cell(c, w) + 1) % 20);
+    x.cook(30);
+    x.say(1);
+    text(x, "boil 1");
+    text(x, "fee 1");
+    x.minutes(7);
+    x.seed(5);
+  }
+
+  private static void whatAnImageDoesNotKeep() {
+    LittlePot x = busy();
+    x.keep();
     x.sheet(0, 0, 3);
     x.lay(0, 3, 44);
     x.tell(5);

@@ -296,6 +296,18 @@ public final class TermsEdgesTest extends Edges {
         due(x, Math.min(due, parts), "told", 0, 2);
       }
     }
+    // It shuns what is where it is, not what is elsewhere.
+    for (int where : new int[] {0, 35}) {
+      for (int deep : new int[] {0, 35}) {
+        LittlePot b = fresh();
+        b.eater(5, 17);
+        b.keep();
+        b.eater(4, 17);
+        b.sends(1, where);
+        b.lays(deep, 2, 51);
+        due(b, where == deep ? 0 : 1, "told", 1, 3);
+      }
+    }
     // What a baby shuns is what is there when it eats: one ahead of it may have made it less.
     LittlePot x = among(2, 51);
     x.eater(4, 14);
@@ -794,6 +806,13 @@ public final class TermsEdgesTest extends Edges {
       due(two(50, wall), 0, "walled", 0, 1, 1);
       due(two(52, wall), 1, "walled", 0, 1, 1);
     }
+    // It is a wall, at which mice gnaw: 48 parts do not go over 5 loaves, but over 4, in the second minute.
+    LittlePot gnawed = two(48, 0);
+    gnawed.rule(3, 100);
+    gnawed.seed(seedFor(100, -1, 1));
+    due(gnawed, 0, "walled", 1, 1, 1);
+    due(gnawed, 1, "walled", 1, 2, 0);
+    due(gnawed, 4, "walled", 1, 2, 1);
     due(fresh(), 0, "walled", 35, 20, 0);
     LittlePot x = fresh();
     x.lays(35, 2, 1);
@@ -914,6 +933,19 @@ public final class TermsEdgesTest extends Edges {
     z.mark(1, 7, 20);
     due(z, 7, "stood", 1, 20, 0);
     due(z, 0, "stood", 1, 20, 1);
+    stoodInTheLast();
+  }
+
+  /** The last cell alone keeps what is cooked there; from all others it comes down to the first 24. */
+  private static void stoodInTheLast() {
+    LittlePot x = fresh();
+    for (int c = 24; c < 36; c++) x.lays(c, 0, c < 30 ? 10 : 20);
+    x.lays(35, 0, 15);
+    x.lays(29, 0, 20);
+    x.lays(29, 1, 20);
+    x.sheet(0, 0, 24);
+    due(x, 35, "stood", 0, 2, 0);
+    due(x, 0, "stood", 0, 2, 1);
   }
 
   // ---- 4, texts
@@ -1384,12 +1416,42 @@ public final class TermsEdgesTest extends Edges {
     due(x, 1, "textTold", 2, 1);
     due(x, BAD, "textTold", 3, 0);
     due(x, 5, "town", 3);
+    keepsFirstAndLast();
     // A later image takes the place of the one that was.
     due(x, 5, "keep");
     x.minutes(9);
     due(x, 5, "back");
     due(x, 3, "count", 6);
     due(x, 5, "town", 3);
+  }
+
+  private static void keepsFirstAndLast() {
+    LittlePot x = thick();
+    for (int e = 0; e < 8; e++) x.eater(e == 0 ? 3 : 1, e % 2 == 0 ? 0 : 35);
+    for (int c = 0; c < 36; c += 35) {
+      x.lays(c, 0, 3);
+      x.lays(c, 1, 4);
+      x.lays(c, 2, 60);
+    }
+    x.minutes(1);
+    int[] cell = {x.cell(0, 2), x.cell(35, 2)};
+    int[] where = {x.told(0, 1), x.told(7, 1)};
+    int[] ate = {x.told(0, 2), x.told(7, 2)};
+    due(x, 8, "keep");
+    for (int c = 0; c < 36; c += 35) for (int w = 0; w < 3; w++) x.lays(c, w, 1);
+    for (int e = 0; e < 8; e++) x.turns(e, 5);
+    for (int e = 0; e < 8; e++) x.sends(e, 14);
+    x.lays(14, 2, 999);
+    x.minutes(1);
+    due(x, 8, "back");
+    for (int i = 0; i < 2; i++) {
+      due(x, 3, "cell", 35 * i, 0);
+      due(x, 4, "cell", 35 * i, 1);
+      due(x, cell[i], "cell", 35 * i, 2);
+      due(x, i == 0 ? 3 : 1, "told", 7 * i, 0);
+      due(x, where[i], "told", 7 * i, 1);
+      due(x, ate[i], "told", 7 * i, 2);
+    }
   }
 
   private static void minutesTold() {
